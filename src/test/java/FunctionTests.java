@@ -11,6 +11,7 @@ final class FunctionTests {
         wrapping();
         errors();
         calls();
+        longBodies();
         callExceptions();
         changes();
         changedShortcuts();
@@ -188,6 +189,24 @@ final class FunctionTests {
                 () -> bench.call(0, 0, Integer.MIN_VALUE, Integer.MAX_VALUE));
         CaseTables order = Text.compiled("fun one(a in 0..1) = 1; fun f(a in 0..1, b in 0..1) = one(a / b);");
         Check.noState("an argument that is not used is reckoned", () -> order.call(1, 1, 0, 0));
+    }
+
+    private static void longBodies() {
+        StringBuilder all = new StringBuilder("a");
+        for (int i = 0; i < 23; i++) {
+            all.append(" and a");
+        }
+        value(1, all + " and b", 1, 5, 0);
+        value(0, all + " and b", 1, 0, 0);
+        changed(1, all + " and b", 23, 1, 0, 0);
+        CaseTables bench = Text.compiled("fun f(a in 0..1, b in 0..1, c in 0..1) ="
+                + "1+2*(a+3*(a+4*(a+5*(a+6*(a+7*(a+8*(b+c)))))));"
+                + "fun g(a in 0..1, b in 0..1, c in 0..1) = 1+2*(a+3*(a+4*(a+5*(a+6*f(a, b, 1+2*f(a, b, c))))));");
+        long inner = 1 + 2 * (1 + 3 * (1 + 4 * (1 + 5 * (1 + 6 * (1 + 7 * (1 + 8 * (2 + 3)))))));
+        long outer = 1 + 2 * (1 + 3 * (1 + 4 * (1 + 5 * (1 + 6 * (1 + 7 * (1 + 8 * (2 + 1 + 2 * inner)))))));
+        Check.same("deep brackets", inner, () -> bench.call(0, 1, 2, 3));
+        Check.same("deep brackets and calls", 1 + 2 * (1 + 3 * (1 + 4 * (1 + 5 * (1 + 6 * outer)))),
+                () -> bench.call(1, 1, 2, 3));
     }
 
     private static void callExceptions() {

@@ -24,6 +24,7 @@ final class ProgramTests {
         cells();
         numbersOfArguments();
         orderOfErrors();
+        fullTape();
     }
 
     private static String repeated(String text, int times) {
@@ -170,6 +171,7 @@ final class ProgramTests {
     private static void tokens() {
         accepted(" \n fun\nf ( a in 0 .. 3 )\n=\n a ;\n\n ");
         accepted("fun f(a in 0..3)=a;table t of f:*:any|0:=-3|1:<>0|2:<1|3:>1|0..1:<=2|1 ..2:>=1|3:error;");
+        accepted("fun za(z in 0..9)=z;fun az(az9 in 0..9)=za(az9);");
         accepted("fun abcdefgh(a1b2c3d4 in 0001..0002)=a1b2c3d4;");
         accepted("fun f(a in 0..3)=if a<1then 2else 9999;");
         accepted("fun f(a in 0..3)=a-- -a;");
@@ -295,6 +297,8 @@ final class ProgramTests {
         misfitInBody(repeated("(", 8) + "f@(a)" + repeated(")", 8));
         misfitInBody(repeated("(", 7) + "f(@(a))" + repeated(")", 7));
         misfitInBody(repeated("(", 7) + "f(a, @(a))" + repeated(")", 7));
+        accepted("fun f(a in 0..1, b in 0..1) = a; fun g(a in 0..1) = " + repeated("(", 6) + "f((a), (a))"
+                + repeated(")", 6) + ";");
         misfitInBody(repeated("(-", 4) + "@(a)" + repeated(")", 4));
         misfitInBody(repeated("(-", 4) + "@-a" + repeated(")", 4));
         misfitInBody(repeated("(-", 4) + "@if a then 1 else 2" + repeated(")", 4));
@@ -467,5 +471,27 @@ final class ProgramTests {
         Text.refusedAtMark(1, "fun f(a in 0..99) = q; fun @");
         Text.refusedAtMark(1, manyFuns(7) + "@x");
         Text.refusedAtMark(1, manyTables(7) + "table t of f0: *: @x;");
+    }
+
+    private static void fullTape() {
+        String row = "*:any";
+        String begin = "fun f(a in 0..9)=a;table t of f:" + row + repeated("|" + row, 9) + ";";
+        CaseTables bench = new CaseTables();
+        Text.feed(bench, begin + repeated(" ", 1500 - begin.length()));
+        Check.same("a program with blanks up to the end", 0, bench::compile);
+        Text.feed(bench, repeated(" ", 1500 - begin.length()) + begin);
+        Check.same("a program at the end", 0, bench::compile);
+        Check.same("its cases", 100, () -> bench.count(3));
+        Text.feed(bench, repeated(" ", 1499 - begin.length()) + begin + "x");
+        Check.same("one byte too much", 1, bench::compile);
+        Check.same("at the end", 1499, bench::errorAt);
+        String cells = "fun f(a in 0..9)=a;table t of f:" + repeated("*,", 734);
+        Text.feed(bench, cells);
+        Check.same("as many tokens as a tape can hold", 1500, () -> bench.count(4));
+        Check.same("and no end of them", 1, bench::compile);
+        Check.same("where the tape ends", 1500, bench::errorAt);
+        Text.feed(bench, cells.substring(0, 1493) + ":any;");
+        Check.same("cells that are too many", 6, bench::compile);
+        Check.same("at the row", 32, bench::errorAt);
     }
 }

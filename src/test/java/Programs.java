@@ -259,6 +259,9 @@ final class Programs {
             }
             text.append(token);
         }
+        if (oneIn(10)) {
+            text.setCharAt(random.nextInt(text.length()), (char) random.nextInt(256));
+        }
         return text.toString();
     }
 

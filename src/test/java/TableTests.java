@@ -14,6 +14,7 @@ final class TableTests {
         takenWithinCalls();
         takenAheadOfErrors();
         takenIsOfTablesAlone();
+        mostIfs();
         finds();
         findsOnlyWhatHeld();
         score();
@@ -154,6 +155,27 @@ final class TableTests {
         takes(bench, 0, 1, 0);
         bench.digest();
         takes(bench, 0, 1, 0);
+    }
+
+    /** Nine ifs in each of six functions: more tokens than 50 would be needed for a tenth. */
+    private static void mostIfs() {
+        StringBuilder all = new StringBuilder();
+        for (int fun = 0; fun < 6; fun++) {
+            all.append("fun f").append(fun).append("(a in 0..1)=if a then if a then 1 else 2 else ");
+            for (int i = 0; i < 7; i++) {
+                all.append("if a then 1 else ");
+            }
+            all.append("3;table t").append(fun).append(" of f").append(fun).append(":*:any;");
+        }
+        CaseTables bench = Text.compiled(all.toString());
+        Check.same("ifs", 54, () -> bench.count(2));
+        for (int number = 0; number < 54; number += 9) {
+            takes(bench, number, 1, 1);
+            takes(bench, number + 1, 1, 0);
+            for (int i = 2; i < 9; i++) {
+                takes(bench, number + i, 0, 1);
+            }
+        }
     }
 
     private static void finds() {
