@@ -2,6 +2,7 @@
 final class Check {
     private static int passed;
     private static int failed;
+    private static String about = "";
 
     private Check() {
     }
@@ -25,8 +26,18 @@ final class Check {
             passed++;
         } else {
             failed++;
-            System.out.println(what + ": answered " + got + ", due is " + due);
+            System.out.println(about + what + ": answered " + got + ", due is " + due);
         }
+    }
+
+    /** What is checked from here on is for these words of the document, or for none of them. */
+    static void about(String words) {
+        about = words.isEmpty() ? "" : words + "\n    ";
+    }
+
+    /** How many checks there were. */
+    static int count() {
+        return passed + failed;
     }
 
     static void noIndex(String what, Call call) {

@@ -28,18 +28,11 @@ final class ProgramTests {
     }
 
     private static String repeated(String text, int times) {
-        StringBuilder all = new StringBuilder();
-        for (int i = 0; i < times; i++) {
-            all.append(text);
-        }
-        return all.toString();
+        return text.repeat(times);
     }
 
     private static void accepted(String text) {
-        CaseTables bench = new CaseTables();
-        Text.feed(bench, text);
-        Check.same("compile of " + text, 0, bench::compile);
-        Check.same("errorAt of " + text, -1, bench::errorAt);
+        Text.accepted(text);
     }
 
     private static void acceptedBody(String body) {

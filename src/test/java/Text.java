@@ -28,6 +28,14 @@ final class Text {
         return bench;
     }
 
+    /** Checks that a program has no error. */
+    static void accepted(String text) {
+        CaseTables bench = new CaseTables();
+        feed(bench, text);
+        Check.same("compile of " + text, 0, bench::compile);
+        Check.same("errorAt of " + text, -1, bench::errorAt);
+    }
+
     /** Checks that a program has an error at a position. */
     static void refused(int error, int at, String text) {
         CaseTables bench = new CaseTables();
