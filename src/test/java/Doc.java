@@ -48,8 +48,20 @@ final class Doc {
         Check.about(told);
     }
 
+    /** Runs tests, each for words of its own; one that throws fails, and the others go on. */
+    static void each(Runnable... tests) {
+        for (Runnable test : tests) {
+            try {
+                test.run();
+            } catch (RuntimeException e) {
+                Check.same("a call in the test", "no exception", () -> e + " at " + e.getStackTrace()[0]);
+            }
+            done();
+        }
+    }
+
     /** Ends what is checked for the words quoted last. */
-    static void done() {
+    private static void done() {
         String told = open;
         open = null;
         Check.about("");

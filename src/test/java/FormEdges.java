@@ -11,45 +11,19 @@ final class FormEdges {
     }
 
     static void run() {
-        positionsFromZero();
-        positionsInBytes();
-        tapeHoldsAtMost1500();
-        tapeIsEmptyAtFirst();
-        tapeIsEmptyBehindCompile();
-        blanksCanStand();
-        blanksHaveToStand();
-        longestTokenIsRead();
-        words();
-        numbers();
-        symbols();
-        keywords();
-        namesLikeKeywords();
-        anyNumberOfTimesAlsoNone();
-        itemsOfProgram();
-        inputsOfFunction();
-        rowsOfTable();
-        cellsOfRow();
-        boundsOfCell();
-        signsOfWhole();
-        results();
-        oneCompare();
-        argumentsOfCall();
-        ifIsNoOperand();
-        groupingFromTheLeft();
-        depthBegins();
-        depthOfBrackets();
-        depthOfSigns();
-        depthOfIfs();
-        depthAtMost8();
-        fiftyTokens();
-        firstMisfit();
-        noTokenBegins();
-        tooLong();
-        endOfTape();
-        depthWouldBeNine();
-        fiftyFirstToken();
-        positionOfFirstByte();
-        Doc.done();
+        Doc.each(
+            FormEdges::positionsFromZero, FormEdges::positionsInBytes, FormEdges::tapeHoldsAtMost1500,
+            FormEdges::tapeIsEmptyAtFirst, FormEdges::tapeIsEmptyBehindCompile, FormEdges::blanksCanStand,
+            FormEdges::blanksHaveToStand, FormEdges::longestTokenIsRead, FormEdges::words, FormEdges::numbers,
+            FormEdges::symbols, FormEdges::keywords, FormEdges::namesLikeKeywords, FormEdges::oneOrNothing,
+            FormEdges::anyNumberOfTimesAlsoNone, FormEdges::itemsOfProgram, FormEdges::inputsOfFunction,
+            FormEdges::boundsOfInput, FormEdges::rowsOfTable, FormEdges::cellsOfRow, FormEdges::boundsOfCell,
+            FormEdges::signsOfWhole, FormEdges::results, FormEdges::levelsOfOperators, FormEdges::oneCompare,
+            FormEdges::argumentsOfCall, FormEdges::ifIsNoOperand, FormEdges::groupingFromTheLeft,
+            FormEdges::depthBegins, FormEdges::depthOfBrackets, FormEdges::depthOfSigns, FormEdges::depthOfIfs,
+            FormEdges::depthAtMost8, FormEdges::fiftyTokens, FormEdges::firstMisfit, FormEdges::noTokenBegins,
+            FormEdges::tooLong, FormEdges::endOfTape, FormEdges::depthWouldBeNine, FormEdges::fiftyFirstToken,
+            FormEdges::positionOfFirstByte);
     }
 
     private static void says(String words) {
@@ -89,6 +63,7 @@ final class FormEdges {
         Text.refused(2, 20, "fun f(a in\n0..3)\n=\n\nq;");
         // a byte of 255 is one byte and no end
         Text.refused(1, 3, "fun\u00ff");
+        Text.refused(1, F.length(), F + "\u00ff");
     }
 
     private static void tapeHoldsAtMost1500() {
@@ -207,8 +182,9 @@ final class FormEdges {
         Text.accepted("fun abcdefgh(a2345678 in 0..1) = a2345678; table z9999999 of abcdefgh: 0: any;");
         Text.refusedAtMark(1, "fun @abcdefghi(a in 0..1) = a;");
         Text.refusedAtMark(1, "fun f(@a23456789 in 0..1) = 0;");
-        // words that differ in the last byte, or in their length alone, are different names
-        Text.accepted("fun abcdefgh(a in 0..1) = a; fun abcdefgi(a in 0..1) = a; fun abcdefg(a in 0..1) = a;");
+        // words that differ in one byte, or in their length alone, are different names
+        Text.accepted("fun abcdefgh(a in 0..1) = a; fun abcdefgi(a in 0..1) = a; fun abcdefg(a in 0..1) = a;"
+                + "fun zbcdefgh(a in 0..1) = a; fun abcd(a in 0..1) = a; fun efgh(a in 0..1) = a;");
         Text.accepted("fun f(a in 0..1, aa in 0..1, a0 in 0..1) = a + aa + a0;");
     }
 
@@ -262,6 +238,15 @@ final class FormEdges {
 
     // ---- the grammar
 
+    private static void oneOrNothing() {
+        says("[ x ] means x or nothing");
+        Text.accepted("fun f(a in 1..1) = 1; fun g(a in -1..-1) = f(1) < 1; table t of f: 1: any | 1..1: = -1;");
+        Text.refusedAtMark(1, "fun f(a in 1..1) = 1 < 1 @< 1;");
+        Text.refusedAtMark(1, "fun f(a in -@-1..1) = 1;");
+        Text.refusedAtMark(1, "fun f(a in 1..1) = f(1)@(1);");
+        Text.refusedAtMark(1, F + "table t of f: 1..1@..1, 1: any;");
+    }
+
     private static void anyNumberOfTimesAlsoNone() {
         says("{ x } means x any number of times, also none");
         fits("a");
@@ -290,6 +275,10 @@ final class FormEdges {
         says("\"fun\" name \"(\" input { \",\" input } \")\" \"=\" expression \";\"");
         Text.refusedAtMark(1, "fun f(@) = 1;");
         Text.refusedAtMark(1, "fun f @= 1;");
+        Text.refusedAtMark(1, "fun @(a in 0..3) = 1;");
+        Text.refusedAtMark(1, "fun f @a in 0..3) = 1;");
+        Text.refusedAtMark(1, "fun f(a in 0..3 @= 1;");
+        Text.refusedAtMark(1, "fun f(a in 0..3) @1;");
         Text.refusedAtMark(1, "fun f(a in 0..3,@) = 1;");
         Text.refusedAtMark(1, "fun f(@, a in 0..3) = 1;");
         Text.refusedAtMark(1, "fun f(a in 0..3) = @;");
@@ -297,9 +286,27 @@ final class FormEdges {
         Text.accepted("fun f(a in 0..3, b in 0..3, c in 0..3) = 1;");
     }
 
+    private static void boundsOfInput() {
+        says("input = name \"in\" whole \"..\" whole");
+        Text.refusedAtMark(1, "fun f(a in 0@) = 1;");
+        Text.refusedAtMark(1, "fun f(a in 0..@) = 1;");
+        Text.refusedAtMark(1, "fun f(a in 0 @1) = 1;");
+        Text.refusedAtMark(1, "fun f(a @0..1) = 1;");
+        Text.refusedAtMark(1, "fun f(a in @..0) = 1;");
+        Text.refusedAtMark(1, "fun f(a in 0..1@..2) = 1;");
+        Text.refusedAtMark(1, "fun f(a in @*) = 1;");
+        Text.refusedAtMark(1, "fun f(a@) = 1;");
+        Text.refusedAtMark(1, "fun f(@in 0..1) = 1;");
+    }
+
     private static void rowsOfTable() {
         says("\"table\" name \"of\" name \":\" row { \"|\" row } \";\"");
         Text.refusedAtMark(1, F + "table t of f@;");
+        Text.refusedAtMark(1, F + "table @of f: *, *: any;");
+        Text.refusedAtMark(1, F + "table t @f: *, *: any;");
+        Text.refusedAtMark(1, F + "table t of @: *, *: any;");
+        Text.refusedAtMark(1, F + "table t of f @*, *: any;");
+        Text.refusedAtMark(1, F + "table t of f: *, *: any@");
         Text.refusedAtMark(1, F + "table t of f: @;");
         Text.refusedAtMark(1, F + "table t of f: @| *, *: any;");
         Text.refusedAtMark(1, F + "table t of f: *, *: any |@;");
@@ -344,6 +351,35 @@ final class FormEdges {
         Text.refusedAtMark(1, F + "table t of f: *, *: any @any;");
         Text.refusedAtMark(1, F + "table t of f: *, *: = 1@..2;");
         Text.accepted(F + "table t of f: *, *: any | *, *: error | *, *: = 1;");
+    }
+
+    private static void levelsOfOperators() {
+        says("product = factor { ( \"*\" | \"/\" | \"%\" ) factor }");
+        value(-6, "-a * b", 2, 3);
+        value(14, "a + b * 4", 2, 3);
+        value(14, "b * 4 + a", 2, 3);
+        value(3, "a + b % 2", 2, 3);
+        value(2, "b - 3 / a", 2, 3);
+        says("sum = product { ( \"+\" | \"-\" ) product }");
+        value(1, "5 = a + b", 2, 3);
+        value(0, "a - b < a - b", 2, 3);
+        value(5, "(a < b) * 4 + (a < b)", 2, 3);
+        says("both = relation { \"and\" relation }");
+        value(1, "a < b and b > a", 2, 3);
+        value(1, "a = 9 and b or 1", 2, 3);
+        value(1, "1 or a = 9 and 0", 2, 3);
+        value(0, "(1 or a = 9) and 0", 2, 3);
+        says("factor = number | name");
+        value(0, "not a = b", 2, 3);
+        value(1, "not (a = b)", 2, 3);
+        value(1, "not a + 1", 2, 3);
+        value(-1, "-a + 1", 2, 3);
+        misfit("@");
+        misfit("a + @");
+        misfit("a * @* b");
+        misfit("(@)");
+        misfit("- @");
+        misfit("not @");
     }
 
     private static void oneCompare() {
@@ -418,6 +454,7 @@ final class FormEdges {
         Text.refusedAtMark(1, f + nested("(", "f@(a,a)", ")", 8) + ";");
         Text.accepted(f + nested("(", "f((a),(a))", ")", 6) + ";");
         Text.refusedAtMark(1, f + nested("(", "f(a,@(a))", ")", 7) + ";");
+        Text.refusedAtMark(1, f + nested("(", "f(@(a),a)", ")", 7) + ";");
         Text.accepted(f + nested("(", "f(a,a)+(a)", ")", 7) + ";");
     }
 
@@ -492,6 +529,7 @@ final class FormEdges {
         for (char sign = 0; sign < 256; sign++) {
             if (begins.indexOf(sign) < 0) {
                 Text.refused(1, 18, "fun f(a in 0..3) =" + sign + "a;");
+                Text.refused(1, F.length(), F + sign);
             }
         }
     }

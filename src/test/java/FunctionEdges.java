@@ -9,37 +9,18 @@ final class FunctionEdges {
     }
 
     static void run() {
-        wrapsAround();
-        cutTowardsZero();
-        yieldsOneOrZero();
-        whatIsTrue();
-        rightOfAnd();
-        rightOfOr();
-        dividedByZero();
-        signOfRemainder();
-        fromLeftToRight();
-        errorEndsAtOnce();
-        rangesDoNotMatter();
-        ifsOverTheProgram();
-        placesFromZero();
-        numberBecomesGreater();
-        operatorsBecomeEachOther();
-        remainderBecomesProduct();
-        ifTakesTheOther();
-        sidesStayAsRead();
-        changeInItselfAlone();
-        funWhat();
-        funThrows();
-        callInputs();
-        callThrowsNoFunction();
-        callThrowsError();
-        changedThrowsNoPlace();
-        changedThrowsError();
-        inputOfThrows();
-        inputOfOrder();
-        proposeAllTried();
-        proposeThrows();
-        Doc.done();
+        Doc.each(
+            FunctionEdges::wrapsAround, FunctionEdges::cutTowardsZero, FunctionEdges::yieldsOneOrZero,
+            FunctionEdges::whatIsTrue, FunctionEdges::rightOfAnd, FunctionEdges::rightOfOr,
+            FunctionEdges::dividedByZero, FunctionEdges::signOfRemainder, FunctionEdges::fromLeftToRight,
+            FunctionEdges::errorEndsAtOnce, FunctionEdges::rangesDoNotMatter, FunctionEdges::ifsOverTheProgram,
+            FunctionEdges::placesFromZero, FunctionEdges::numberBecomesGreater,
+            FunctionEdges::operatorsBecomeEachOther, FunctionEdges::remainderBecomesProduct,
+            FunctionEdges::ifTakesTheOther, FunctionEdges::sidesStayAsRead, FunctionEdges::changeInItselfAlone,
+            FunctionEdges::funWhat, FunctionEdges::funThrows, FunctionEdges::callInputs,
+            FunctionEdges::callThrowsNoFunction, FunctionEdges::callThrowsError, FunctionEdges::changedThrowsNoPlace,
+            FunctionEdges::changedThrowsError, FunctionEdges::inputOfThrows, FunctionEdges::inputOfOrder,
+            FunctionEdges::proposeAllTried, FunctionEdges::proposeThrows);
     }
 
     private static void says(String words) {

@@ -9,36 +9,17 @@ final class MeaningEdges {
     }
 
     static void run() {
-        formGoesAhead();
-        itemByItem();
-        leftToRight();
-        noInput();
-        noFunctionCalled();
-        noFunctionOfTable();
-        nameOfItem();
-        nameOfInput();
-        sevenFunctions();
-        sevenTables();
-        fourInputs();
-        fourthInputAheadOfItsName();
-        thirteenRows();
-        thirteenthRowAheadOfCells();
-        hundredCases();
-        casesAtFirstToken();
-        sizeOver200();
-        sizeIsCounted();
-        sizeOfCalls();
-        boundOfInput();
-        secondBound();
-        numberOfCell();
-        secondNumberOfCell();
-        errorFiveAtNumber();
-        argumentCount();
-        argumentsLookedAtFirst();
-        cellCount();
-        cellsLookedAtFirst();
-        cellsTooMany();
-        Doc.done();
+        Doc.each(
+            MeaningEdges::formGoesAhead, MeaningEdges::itemByItem, MeaningEdges::leftToRight, MeaningEdges::noInput,
+            MeaningEdges::noFunctionCalled, MeaningEdges::noFunctionOfTable, MeaningEdges::nameOfItem,
+            MeaningEdges::nameOfInput, MeaningEdges::sevenFunctions, MeaningEdges::sevenTables,
+            MeaningEdges::fourInputs, MeaningEdges::fourthInputAheadOfItsName, MeaningEdges::thirteenRows,
+            MeaningEdges::thirteenthRowAheadOfCells, MeaningEdges::hundredCases, MeaningEdges::casesAtFirstToken,
+            MeaningEdges::sizeOver200, MeaningEdges::sizeIsCounted, MeaningEdges::sizeOfCalls,
+            MeaningEdges::boundOfInput, MeaningEdges::secondBound, MeaningEdges::numberOfCell,
+            MeaningEdges::secondNumberOfCell, MeaningEdges::errorFiveAtNumber, MeaningEdges::argumentCount,
+            MeaningEdges::argumentsLookedAtFirst, MeaningEdges::cellCount, MeaningEdges::cellsLookedAtFirst,
+            MeaningEdges::cellsTooMany);
     }
 
     private static void says(String words) {
@@ -105,6 +86,9 @@ final class MeaningEdges {
         // inputs of the functions ahead are none of this one
         Text.refusedAtMark(2, F + "fun g(c in 0..3) = c + @a;");
         Text.refusedAtMark(2, WIDE + "fun g(a in 0..3) = a + @b;");
+        CaseTables bench = Text.compiled(WIDE);
+        Text.feed(bench, "fun f(a in 0..3) = c;");
+        Check.same("nor are those of a program that is gone", 2, bench::compile);
         Text.accepted("fun f(f in 0..3) = f; fun g(f in 0..3) = f;");
     }
 

@@ -10,22 +10,12 @@ final class ProgramEdges {
     }
 
     static void run() {
-        newObject();
-        feedAppends();
-        feedReturns();
-        feedThrows();
-        trimKeepsFirst();
-        trimReturns();
-        trimThrows();
-        programIsGone();
-        compileReturns();
-        errorAtWithout();
-        countThrows();
-        countsNothing();
-        manyCalls();
-        refusedChangesNothing();
-        firstNamedIsThrown();
-        Doc.done();
+        Doc.each(
+            ProgramEdges::newObject, ProgramEdges::feedAppends, ProgramEdges::feedReturns, ProgramEdges::feedThrows,
+            ProgramEdges::trimKeepsFirst, ProgramEdges::trimReturns, ProgramEdges::trimThrows,
+            ProgramEdges::programIsGone, ProgramEdges::compileReturns, ProgramEdges::errorAtWithout,
+            ProgramEdges::countThrows, ProgramEdges::countsNothing, ProgramEdges::manyCalls,
+            ProgramEdges::refusedChangesNothing, ProgramEdges::firstNamedIsThrown);
     }
 
     // ---- promises 1 to 6

@@ -12,39 +12,17 @@ final class TableEdges {
     }
 
     static void run() {
-        starIsAll();
-        ascendingOrder();
-        casesFromZero();
-        holdsWithAny();
-        holdsWithError();
-        holdsOtherwise();
-        pairOfOneInput();
-        triedPairs();
-        mostPairs();
-        firstOfSeveral();
-        tableWhat();
-        tableAllHold();
-        tableThrows();
-        caseOfThrows();
-        holdsThrows();
-        takenBranches();
-        takenThrows();
-        findsThrows();
-        findsWhatHeld();
-        scoreWithoutPlaces();
-        scoreIsPart();
-        scoreThrows();
-        growAddsRow();
-        growReturns();
-        growThrowsNoTable();
-        growThrowsFull();
-        shortenFromLast();
-        shortenKeepsFirst();
-        shortenReturns();
-        shortenThrows();
-        digestOfNothing();
-        digestWraps();
-        Doc.done();
+        Doc.each(
+            TableEdges::starIsAll, TableEdges::ascendingOrder, TableEdges::casesFromZero, TableEdges::holdsWithAny,
+            TableEdges::holdsWithError, TableEdges::holdsOtherwise, TableEdges::pairOfTwoInputs,
+            TableEdges::pairOfOneInput, TableEdges::triedPairs, TableEdges::mostPairs, TableEdges::firstOfSeveral,
+            TableEdges::tableWhat, TableEdges::tableAllHold, TableEdges::tableThrows, TableEdges::caseOfThrows,
+            TableEdges::holdsThrows, TableEdges::takenBranches, TableEdges::takenThrows, TableEdges::findsThrows,
+            TableEdges::findsWhatHeld, TableEdges::scoreWithoutPlaces, TableEdges::scoreIsPart,
+            TableEdges::scoreThrows, TableEdges::growAddsRow, TableEdges::growReturns, TableEdges::growThrowsNoTable,
+            TableEdges::growThrowsFull, TableEdges::shortenFromLast, TableEdges::shortenKeepsFirst,
+            TableEdges::shortenReturns, TableEdges::shortenThrows, TableEdges::digestOfNothing,
+            TableEdges::digestWraps);
     }
 
     private static void says(String words) {
@@ -139,6 +117,18 @@ final class TableEdges {
     }
 
     // ---- pairs and proposed cases
+
+    private static void pairOfTwoInputs() {
+        says("A pair is two inputs of a function, with a value out of the range for each");
+        CaseTables bench = Text.compiled("fun f(a in 0..1, b in -1..1) = a; fun g(a in 0..1, b in -1..1, c in 4..8) = a;"
+                + "fun h(a in 0..0, b in 0..0) = a; fun i(a in -20..20, b in -20..20) = a;");
+        int[] due = {6, 6 + 10 + 15, 1, 1681};
+        for (int i = 0; i < due.length; i++) {
+            int fun = i;
+            Check.same("pairs of " + i, due[i], () -> bench.fun(fun, 4));
+            Check.same("none of them tried of " + i, due[i], () -> bench.fun(fun, 5));
+        }
+    }
 
     private static void pairOfOneInput() {
         says("for a function with one input it is a value of this one");
