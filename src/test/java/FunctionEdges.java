@@ -253,10 +253,14 @@ final class FunctionEdges {
         for (int place = 0; place < due.length; place++) {
             changed(due[place], "7 + 3 * 5 - 31 / 2 % 7", place, 0, 0, 0);
         }
-        // the if stands ahead of its parts
-        changed(5, "if 0 then 5 else 8", 0, 0, 0, 0);
-        changed(8, "if 0 then 5 else 8", 2, 0, 0, 0);
-        changed(9, "if 0 then 5 else 8", 3, 0, 0, 0);
+        // the if stands ahead of its parts, an operator between its sides
+        String[] bodies = {"if 2 then 5 else 8", "5 = 6", "0 or 1", "0 and 1"};
+        int[][] dues = {{8, 5, 6, 5}, {1, 1, 0}, {1, 0, 1}, {1, 1, 0}};
+        for (int i = 0; i < bodies.length; i++) {
+            for (int place = 0; place < dues[i].length; place++) {
+                changed(dues[i][place], bodies[i], place, 0, 0, 0);
+            }
+        }
         // the most places that 50 tokens hold
         CaseTables most = of("0" + "+0".repeat(24));
         Check.same("most places", 49, () -> most.fun(0, 1));

@@ -135,6 +135,7 @@ final class ProgramEdges {
         bench.trim(10);
         Check.noArgument("trim(11) of 10 bytes", () -> bench.trim(11));
         Check.same("trim(10) of 10 bytes", 10, () -> bench.trim(10));
+        Check.same("trim(0) of 10 bytes", 0, () -> bench.trim(0));
     }
 
     private static void programIsGone() {
@@ -188,6 +189,9 @@ final class ProgramEdges {
         Check.same("it had none", -1, bench::errorAt);
         bench.compile();
         Check.same("the first byte", 0, bench::errorAt);
+        Text.feed(bench, F);
+        bench.compile();
+        Check.same("it had none again", -1, bench::errorAt);
     }
 
     private static void countThrows() {

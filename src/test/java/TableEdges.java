@@ -50,6 +50,20 @@ final class TableEdges {
         Check.same("else of if " + number, elses, () -> bench.taken(number, false));
     }
 
+    /** A bench that had more tables before, all of them with cases. */
+    private static CaseTables behindOthers(String program) {
+        CaseTables bench = new CaseTables();
+        StringBuilder tables = new StringBuilder("fun f(a in 0..9) = a;");
+        for (int i = 0; i < 7; i++) {
+            tables.append("table t").append(i).append(" of f: *: any;");
+        }
+        Text.feed(bench, tables.toString());
+        Check.same("seven tables", 4, bench::compile);
+        Text.feed(bench, program);
+        Check.same("compile of " + program, 0, bench::compile);
+        return bench;
+    }
+
     // ---- cases
 
     private static void starIsAll() {
@@ -188,8 +202,8 @@ final class TableEdges {
         Doc.says("Promise 12", "0 its function, 1 the number of its rows, 2 of its cases, 3 of its cases that hold");
         CaseTables bench = Text.compiled("fun e(a in 0..0) = a; fun f(a in -20..20, b in 0..20) = a;"
                 + "table t of f: 0, 0: any" + " | 0, 0: any".repeat(10) + " | *, 0: any;"
-                + "table u of f: 1..10, 1..10: < 0; table v of e: 0: = 0;");
-        int[][] due = {{1, 12, 52, 52}, {1, 1, 100, 0}, {0, 1, 1, 1}};
+                + "table u of f: 1..10, 1..10: > 0; table v of e: 0: = 0; table w of f: 1..10, 1..10: < 0;");
+        int[][] due = {{1, 12, 52, 52}, {1, 1, 100, 100}, {0, 1, 1, 1}, {1, 1, 100, 0}};
         for (int table = 0; table < due.length; table++) {
             for (int what = 0; what < 4; what++) {
                 int number = table;
@@ -242,6 +256,10 @@ final class TableEdges {
         for (int table : new int[] {-1, 3, 6, MOST, LEAST}) {
             Check.noIndex("caseOf(" + table + ", 0, 0)", () -> bench.caseOf(table, 0, 0));
         }
+        CaseTables late = behindOthers(MAX + "table t of max: 0, 0: any;");
+        for (int table : new int[] {-1, 1, 5, 6}) {
+            Check.noIndex("caseOf(" + table + ", 0, 0) behind other tables", () -> late.caseOf(table, 0, 0));
+        }
         caseIs(bench, 0, 99, 9, 9, 0);
         caseIs(bench, 2, 1, 4);
         bench.shorten(2);
@@ -258,6 +276,10 @@ final class TableEdges {
         Check.noIndex("holds(1, 1)", () -> bench.holds(1, 1));
         for (int table : new int[] {-1, 2, 6, MOST, LEAST}) {
             Check.noIndex("holds(" + table + ", 0)", () -> bench.holds(table, 0));
+        }
+        CaseTables late = behindOthers(MAX + "table t of max: 0, 0: any;");
+        for (int table : new int[] {-1, 1, 5, 6}) {
+            Check.noIndex("holds(" + table + ", 0) behind other tables", () -> late.holds(table, 0));
         }
     }
 
@@ -530,7 +552,15 @@ final class TableEdges {
             sum = sum.multiply(BigInteger.valueOf(31)).add(BigInteger.valueOf(number));
         }
         long due = sum.longValue();
-        Check.same("a sum of more than a thousand bits", true, () -> due != 0);
         Check.same("digest", due, bench::digest);
+        // 373 times 31 eleven times is the first that is too great for 63 bits
+        CaseTables below = Text.compiled("fun f(a in 0..0) = a;");
+        BigInteger least = BigInteger.valueOf(373);
+        for (int number : new int[] {1, 0, 0, 0, 0, 1, 0, 0, 1, 1, 1}) {
+            least = least.multiply(BigInteger.valueOf(31)).add(BigInteger.valueOf(number));
+        }
+        long wrapped = least.longValue();
+        Check.same("a digest below 0", true, () -> wrapped < 0);
+        Check.same("that digest", wrapped, below::digest);
     }
 }
