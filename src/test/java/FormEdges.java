@@ -360,6 +360,9 @@ final class FormEdges {
         value(14, "b * 4 + a", 2, 3);
         value(3, "a + b % 2", 2, 3);
         value(2, "b - 3 / a", 2, 3);
+        value(3, "not a * b", 0, 3);
+        fits("-".repeat(8) + "a*(b)");
+        fits("not ".repeat(8) + "a*(b)");
         says("sum = product { ( \"+\" | \"-\" ) product }");
         value(1, "5 = a + b", 2, 3);
         value(0, "a - b < a - b", 2, 3);
