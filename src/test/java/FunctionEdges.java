@@ -348,8 +348,8 @@ final class FunctionEdges {
     // ---- promises 7 to 11
 
     private static void funWhat() {
-        Doc.says("Promise 7", "0 the number of its inputs, 1 of its places, 2 of its tables, 3 of all rows of inputs from "
-                + "its ranges, 4 of its pairs, 5 of its pairs that are not tried");
+        Doc.says("Promise 7", "0 the number of its inputs, 1 of its places, 2 of its tables, 3 of all rows of "
+                + "inputs from its ranges, 4 of its pairs, 5 of its pairs that are not tried");
         CaseTables most = Text.compiled("fun f(a in -20..20, b in -20..20, c in -20..20) = -a" + "+1".repeat(24) + ";"
                 + "fun g(a in 5..5) = a; fun h(a in 5..5, b in 0..0) = a; fun i(a in 5..5, b in 0..0, c in 1..1) = a;"
                 + "table t of g: 5: any; table u of g: 5: any; table v of i: 5, 0, 1: any;");
@@ -457,7 +457,9 @@ final class FunctionEdges {
         Doc.says("Promise 10", "the number of a row of inputs from its ranges, from 0, in the order told above");
         CaseTables bench = Text.compiled("fun f(a in -1..1, b in 5..6, c in 0..3) = a;"
                 + "fun g(a in -20..20, b in -20..20, c in -20..20) = a;");
-        int[][] due = {{0, -1, 5, 0}, {1, -1, 5, 1}, {3, -1, 5, 3}, {4, -1, 6, 0}, {7, -1, 6, 3}, {8, 0, 5, 0}, {23, 1, 6, 3}};
+        int[][] due = {
+            {0, -1, 5, 0}, {1, -1, 5, 1}, {3, -1, 5, 3}, {4, -1, 6, 0}, {7, -1, 6, 3}, {8, 0, 5, 0}, {23, 1, 6, 3}
+        };
         for (int[] row : due) {
             for (int input = 0; input < 3; input++) {
                 int asked = input;

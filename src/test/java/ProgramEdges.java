@@ -48,7 +48,8 @@ final class ProgramEdges {
     }
 
     private static void feedAppends() {
-        Doc.says("Promise 2", "Appends twenty bytes to the tape: the four bytes of each number, the highest one first.");
+        Doc.says("Promise 2", "Appends twenty bytes to the tape: the four bytes of each number, the highest one "
+                + "first.");
         CaseTables bench = new CaseTables();
         bench.feed(0x66756e20, 0x6628610a, 0x696e2030, 0x2e2e3329, 0x3d20613b);
         Check.same("fun f(a in 0..3)= a;", 0, bench::compile);
@@ -275,7 +276,8 @@ final class ProgramEdges {
 
     private static void refusedChangesNothing() {
         Doc.says("3. Tables", "A method that throws an exception changes nothing.");
-        CaseTables bench = Text.compiled("fun f(a in 0..9) = if a then 60 / (a - 1) else 3; table t of f: 0: = 3 | 1: error"
+        CaseTables bench = Text.compiled("fun f(a in 0..9) = if a then 60 / (a - 1) else 3;"
+                + " table t of f: 0: = 3 | 1: error"
                 + " | 0: any".repeat(10) + "; fun g(a in 0..1) = a; table u of g: *: any;");
         Text.feed(bench, F + " ".repeat(1490 - F.length()));
         unchanged("feed", bench, b -> b.feed(0, 0, 0, 0, 0));

@@ -118,7 +118,8 @@ final class TableEdges {
         String[] results = {"= 2", "<> 2", "< 2", "> 2", "<= 2", ">= 2"};
         String[] due = {"0100", "1010", "1000", "0010", "1100", "0110"};
         for (int i = 0; i < results.length; i++) {
-            holding(Text.compiled("fun f(x in 1..4) = if x < 4 then x else 1 / 0; table t of f: *: " + results[i] + ";"),
+            holding(Text.compiled("fun f(x in 1..4) = if x < 4 then x else 1 / 0;"
+                    + " table t of f: *: " + results[i] + ";"),
                     0, due[i]);
         }
         // an error is not the value 0, and 2 to the 32nd and 5 is not 5
@@ -134,7 +135,8 @@ final class TableEdges {
 
     private static void pairOfTwoInputs() {
         says("A pair is two inputs of a function, with a value out of the range for each");
-        CaseTables bench = Text.compiled("fun f(a in 0..1, b in -1..1) = a; fun g(a in 0..1, b in -1..1, c in 4..8) = a;"
+        CaseTables bench = Text.compiled("fun f(a in 0..1, b in -1..1) = a;"
+                + " fun g(a in 0..1, b in -1..1, c in 4..8) = a;"
                 + "fun h(a in 0..0, b in 0..0) = a; fun i(a in -20..20, b in -20..20) = a;");
         int[] due = {6, 6 + 10 + 15, 1, 1681};
         for (int i = 0; i < due.length; i++) {
@@ -146,7 +148,8 @@ final class TableEdges {
 
     private static void pairOfOneInput() {
         says("for a function with one input it is a value of this one");
-        CaseTables bench = Text.compiled("fun f(a in -20..20) = a; fun g(a in 7..7) = a; table t of f: -20: any | 20: any;");
+        CaseTables bench = Text.compiled("fun f(a in -20..20) = a; fun g(a in 7..7) = a;"
+                + " table t of f: -20: any | 20: any;");
         Check.same("pairs", 41, () -> bench.fun(0, 4));
         Check.same("pairs that are not tried", 39, () -> bench.fun(0, 5));
         Check.same("one value", 1, () -> bench.fun(1, 4));
@@ -187,7 +190,8 @@ final class TableEdges {
 
     private static void firstOfSeveral() {
         says("of several the first one in the order told above");
-        CaseTables none = Text.compiled("fun f(a in -1..1, b in -1..1, c in -1..1) = a; fun g(a in -1..1, b in 4..5) = a;"
+        CaseTables none = Text.compiled("fun f(a in -1..1, b in -1..1, c in -1..1) = a;"
+                + " fun g(a in -1..1, b in 4..5) = a;"
                 + "table t of g: -1, 4: any;");
         Check.same("the first of all", 0, () -> none.propose(0));
         Check.same("the next one", 1, () -> none.propose(1));
@@ -268,7 +272,8 @@ final class TableEdges {
 
     private static void holdsThrows() {
         Doc.says("Promise 14", "Throws `IndexOutOfBoundsException` if there is no such table or case");
-        CaseTables bench = Text.compiled("fun f(a in 0..9, b in 0..9) = a; table t of f: *, *: any; table u of f: 1, 1: any;");
+        CaseTables bench = Text.compiled("fun f(a in 0..9, b in 0..9) = a; table t of f: *, *: any;"
+                + " table u of f: 1, 1: any;");
         for (int index : new int[] {-1, 100, MOST, LEAST}) {
             Check.noIndex("holds(0, " + index + ")", () -> bench.holds(0, index));
         }
@@ -337,9 +342,10 @@ final class TableEdges {
     }
 
     private static void findsWhatHeld() {
-        Doc.says("Promise 16", "whether with the change at this place a case of the table does not hold that holds without "
-                + "it.");
-        CaseTables bench = Text.compiled("fun f(x in 0..3) = x + 1; table t of f: 0: = 2; table u of f: 0: = 2 | 3: < 5;"
+        Doc.says("Promise 16", "whether with the change at this place a case of the table does not hold that "
+                + "holds without it.");
+        CaseTables bench = Text.compiled("fun f(x in 0..3) = x + 1; table t of f: 0: = 2;"
+                + " table u of f: 0: = 2 | 3: < 5;"
                 + "table v of f: 0: <> 1; table w of f: 0: any | 1: any;");
         boolean[][] due = {{false, false}, {false, true}, {false, false}, {false, false}};
         for (int table = 0; table < due.length; table++) {
@@ -350,7 +356,8 @@ final class TableEdges {
             }
         }
         // any and error find what makes an error, or takes it away
-        CaseTables errors = Text.compiled("fun f(x in 0..2) = 6 / (x - 1); table t of f: 2: any; table u of f: 1: error;");
+        CaseTables errors = Text.compiled("fun f(x in 0..2) = 6 / (x - 1); table t of f: 2: any;"
+                + " table u of f: 1: error;");
         String[] errorsDue = {"0001", "0111"};
         for (int table = 0; table < 2; table++) {
             for (int i = 0; i < 4; i++) {
@@ -411,8 +418,8 @@ final class TableEdges {
         Check.same("a value holds", true, () -> bench.holds(0, 2));
         Check.same("rows", 3, () -> bench.table(0, 1));
         // a value that no number of the language could tell: 2 to the 63rd
-        CaseTables wide = Text.compiled("fun f(a in -20..20) = 4096 * 4096 * 4096 * 4096 * 4096 * 8; fun g(a in 0..1) = "
-                + "-f(a) - a; table t of f: 0: any; table u of g: 1: any;");
+        CaseTables wide = Text.compiled("fun f(a in -20..20) = 4096 * 4096 * 4096 * 4096 * 4096 * 8;"
+                + " fun g(a in 0..1) = -f(a) - a; table t of f: 0: any; table u of g: 1: any;");
         wide.grow(0);
         wide.grow(1);
         Check.same("the least value holds", -1, () -> wide.table(0, 4));
@@ -426,7 +433,8 @@ final class TableEdges {
 
     private static void growReturns() {
         Doc.says("Promise 18", "Returns the number of its cases then.");
-        CaseTables bench = Text.compiled("fun f(a in 0..20) = a; table t of f: 0..9: any | 3..4: any; table u of f: 5: any;");
+        CaseTables bench = Text.compiled("fun f(a in 0..20) = a; table t of f: 0..9: any | 3..4: any;"
+                + " table u of f: 5: any;");
         for (int cases = 13; cases <= 22; cases++) {
             int due = cases;
             Check.same("grow to " + cases, due, () -> bench.grow(0));
@@ -445,7 +453,8 @@ final class TableEdges {
     }
 
     private static void growThrowsFull() {
-        Doc.says("Promise 18", "Throws `IllegalStateException` if all pairs are tried, the table has 12 rows or 100 cases");
+        Doc.says("Promise 18", "Throws `IllegalStateException` if all pairs are tried, the table has 12 rows or "
+                + "100 cases");
         CaseTables tried = Text.compiled("fun f(a in 0..1) = a; table t of f: 0: any; table u of f: 1: any;");
         Check.noState("all pairs are tried", () -> tried.grow(0));
         CaseTables rows = Text.compiled("fun f(a in -20..20) = a; table t of f: 0: any" + " | 0: any".repeat(10)
@@ -468,8 +477,8 @@ final class TableEdges {
     }
 
     private static void shortenFromLast() {
-        Doc.says("Promise 19", "from the last row on, one after the other, a row is dropped, if the table without it finds "
-                + "as many changes as with it");
+        Doc.says("Promise 19", "from the last row on, one after the other, a row is dropped, if the table "
+                + "without it finds as many changes as with it");
         CaseTables bench = Text.compiled(MAX + "table t of max: 0, 0: any | 2, 1: = 2 | 1, 2: = 2 | 3, *: any;");
         Check.same("one row finds the if", 1, () -> bench.shorten(0));
         caseIs(bench, 0, 0, 2, 1);
