@@ -3,9 +3,9 @@ public final class AllTests {
     private AllTests() {
     }
 
-    /** The document's path is told from outside. */
+    /** The paths of the document and of README.md are told from outside. */
     public static void main(String[] args) {
-        Doc.read(args.length == 1 ? args[0] : "");
+        Doc.read(args.length == 2 ? args[0] : "");
         FaceTests.run();
         ProgramTests.run();
         FunctionTests.run();
@@ -15,7 +15,9 @@ public final class AllTests {
         FunctionEdges.run();
         TableEdges.run();
         ProgramEdges.run();
+        GrammarTests.run();
         ModelTests.run();
+        ReadmeTests.run(args.length == 2 ? args[1] : "");
         System.exit(Check.finish());
     }
 }

@@ -36,12 +36,17 @@ final class Doc {
         }
     }
 
+    /** The text of a section, in one line. */
+    static String text(String section) {
+        return SECTIONS.getOrDefault(section, "");
+    }
+
     /** From here on, up to the next call, all that is checked is checked for these words of the document. */
     static void says(String section, String words) {
         done();
         String told = section + ", \"" + words + "\"";
         Check.same(told + " stands in the document", true,
-                () -> SECTIONS.getOrDefault(section, "").contains(words));
+                () -> text(section).contains(words));
         Check.same(told + " is quoted for the first time", true, () -> QUOTED.add(told));
         open = told;
         checksBefore = Check.count();
